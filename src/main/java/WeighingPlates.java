@@ -1453,11 +1453,11 @@ public final class WeighingPlates {
             for (int done = (1 << count) - 1; done > 0; done--) {
                 for (int last = 0; last < count; last++) {
                     if ((done >> last & 1) == 1) {
-                        int next = bestNext(done, last);
-                        rest[done * count + last] = next < 0 ? 0 : movesBy(done, last, next);
+                        rest[done * count + last] = fewestFrom(done, last);
                     }
                 }
             }
+            moves = fewestFrom(0, MOST_MASKS);
             walk();
         }
 
@@ -1470,40 +1470,43 @@ public final class WeighingPlates {
             }
         }
 
-        /** The first mask by numbers among the best ones to go on with; -1 if all are done. */
-        private int bestNext(int done, int last) {
-            int best = -1;
-            int least = 0;
+        private int fewestFrom(int done, int last) {
+            int fewest = -1;
             for (int next = 0; next < count; next++) {
                 if ((done >> next & 1) == 0) {
                     int all = movesBy(done, last, next);
-                    if (best < 0 || all < least) {
-                        best = next;
-                        least = all;
+                    if (fewest < 0 || all < fewest) {
+                        fewest = all;
                     }
                 }
             }
-            return best;
+            return Math.max(fewest, 0);
         }
 
         private int movesBy(int done, int last, int next) {
             return steps[last * MOST_MASKS + next] + rest[(done | 1 << next) * count + next];
         }
 
+        /** Goes on with the first mask by numbers that keeps to the fewest moves, so the row is the first of its like. */
         private void walk() {
-            moves = 0;
             int done = 0;
             int last = MOST_MASKS;
             for (int i = 0; i < count; i++) {
-                int next = bestNext(done, last);
-                if (next < 0) {
-                    return;
-                }
-                moves += steps[last * MOST_MASKS + next];
+                int next = nextOf(done, last);
                 order[i] = next;
                 done |= 1 << next;
                 last = next;
             }
+        }
+
+        private int nextOf(int done, int last) {
+            int fewest = fewestFrom(done, last);
+            for (int next = 0; next < count; next++) {
+                if ((done >> next & 1) == 0 && movesBy(done, last, next) == fewest) {
+                    return next;
+                }
+            }
+            return 0;
         }
     }
 

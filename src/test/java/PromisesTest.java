@@ -837,6 +837,12 @@ public final class PromisesTest {
         due("fewer: not less", x.fewer(), 0, x, 0);
         WeighingPlates s = of(STAR);
         due("fewer", s.fewer(), 1, s, 0);
+        WeighingPlates two = of("bench squares 7 dark 0 top 9;mask 0 3 5 6;mask 1 2 3 6;mask 2 4 5 6;mask 0 1 2 5"
+                + ";mask 0 1 2 4 6;mask 0 2 3 4;mask 3 4 5");
+        due("fewer", two.fewer(), 8 + 32, two, 0);
+        due("shareBy(3)", two.shareBy(3, false), 27, two, 0);
+        due("shareBy(3) lower", two.shareBy(3, true), 64, two, 0);
+        due("shareBy(0)", two.shareBy(0, false), 35, two, 0);
     }
 
     private static void solved() {
