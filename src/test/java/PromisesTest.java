@@ -1,17 +1,8 @@
-import java.util.NoSuchElementException;
-
 /** The document's promises one by one, with answers that were worked out by hand. */
-public final class PromisesTest {
-    private static final int LOW = Integer.MIN_VALUE;
-    private static final long LOWEST = Long.MIN_VALUE;
-    /** Plates 0 2, 1 2, 0 1; net readings 14, 24, 30. */
-    private static final String SMALL = "bench doubled 2 dark 5 top 999;light 0 10;light 1 20;light 2 4";
-    private static final String BARE = "bench doubled 2 dark 0 top 9";
+public final class PromisesTest extends Checks {
     private static final String MASKS = SMALL + ";mask 0 1;mask 1 2;mask 0 2;mask 0 1 2";
     private static final String STAR = "bench doubled 3 dark 0 top 999;light 0 9;light 1 4"
             + ";mask 0 1;mask 0 2;mask 0 3;mask 0 4;mask 0 5;mask 0 6;mask 1 2 3 4 5 6";
-    private static int wrong = 0;
-    private static int promise = 0;
 
     public static void main(String[] args) {
         newObject();
@@ -54,45 +45,7 @@ public final class PromisesTest {
         stuck();
         sizes();
         trouble();
-        System.out.println(wrong == 0 ? "all promises are kept" : wrong + " answers are not as due");
-        if (wrong != 0) {
-            System.exit(1);
-        }
-    }
-
-    private static void due(String what, long got, long want) {
-        if (got != want) {
-            wrong++;
-            System.out.println("promise " + promise + ": " + what + " answered " + got + ", due is " + want);
-        }
-    }
-
-    /** An answer, and the trouble of the call that gave it. */
-    private static void due(String what, long got, long want, WeighingPlates x, int trouble) {
-        due(what, got, want);
-        due("trouble after " + what, x.trouble(), trouble);
-    }
-
-    private static void give(WeighingPlates x, String text) {
-        for (int at = 0; at < text.length(); at += 20) {
-            int[] five = new int[5];
-            for (int i = 0; i < 20; i++) {
-                int b = at + i < text.length() ? text.charAt(at + i) & 255 : 32;
-                five[i / 4] = five[i / 4] << 8 | b;
-            }
-            x.feed(five[0], five[1], five[2], five[3], five[4]);
-        }
-    }
-
-    private static int put(WeighingPlates x, String text) {
-        give(x, text);
-        return x.bench(text.length());
-    }
-
-    private static WeighingPlates of(String text) {
-        WeighingPlates x = new WeighingPlates();
-        due("bench of " + text, put(x, text) > 0 ? 1 : 0, 1);
-        return x;
+        end("all promises are kept");
     }
 
     private static void newObject() {
@@ -203,13 +156,6 @@ public final class PromisesTest {
         due("no tour", x.tour(), 0);
     }
 
-    private static void good(String text, int colours) {
-        WeighingPlates x = new WeighingPlates();
-        due("bench of " + text, put(x, text), colours, x, 0);
-        due("fault of " + text, x.fault(), 0);
-        due("where of " + text, x.where(), -1);
-    }
-
     private static void goodTexts() {
         promise = 3;
         for (int k = 2; k <= 5; k++) {
@@ -225,13 +171,6 @@ public final class PromisesTest {
         good(BARE + ";stuck 0 open;light 0 1;noise 0 plus 99;lost 0;noise 1 less 1", 3);
         WeighingPlates x = of(BARE + ";light 000001 000007");
         due("light(1)", x.light(1), 7);
-    }
-
-    private static void bad(String text, int fault, int place) {
-        WeighingPlates x = new WeighingPlates();
-        due("bench of " + text, put(x, text), -1, x, 4);
-        due("fault of " + text, x.fault(), fault);
-        due("place in " + text, x.where(), place);
     }
 
     private static void faults() {
@@ -342,7 +281,7 @@ public final class PromisesTest {
         due("where()", x.where(), 14);
         x.feed(0, 0, 0, 0, 0);
         x.size(0);
-        due("stuck", isStuck(x, 0), -9);
+        due("stuck", isStuck(x, 0), THROWN);
         due("where() behind calls that aren't refused by a number", x.where(), 14);
         due("trouble()", x.trouble(), 4);
         x.bench(21);
@@ -1068,23 +1007,15 @@ public final class PromisesTest {
         due("light(1)", x.light(1), 2);
     }
 
-    private static int isStuck(WeighingPlates x, int i) {
-        try {
-            return x.stuck(i);
-        } catch (NoSuchElementException e) {
-            return -9;
-        }
-    }
-
     private static void stuck() {
         promise = 52;
         WeighingPlates x = new WeighingPlates();
-        due("stuck(0) without a bench", isStuck(x, 0), -9);
+        due("stuck(0) without a bench", isStuck(x, 0), THROWN);
         put(x, "bench squares 7 dark 0 top 9;stuck 5 shut;stuck 2 open");
         due("stuck(0)", isStuck(x, 0), 2);
         due("stuck(1)", isStuck(x, 1), 5);
-        due("stuck(2)", isStuck(x, 2), -9);
-        due("stuck(-1)", isStuck(x, -1), -9);
+        due("stuck(2)", isStuck(x, 2), THROWN);
+        due("stuck(-1)", isStuck(x, -1), THROWN);
         x.stick(6, 1);
         x.stick(2, 0);
         due("stuck(0)", isStuck(x, 0), 5);
