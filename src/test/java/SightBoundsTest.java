@@ -42,6 +42,7 @@ public final class SightBoundsTest extends Checks {
         noMasks();
         twelveMasks();
         masksAlike();
+        masksAlikeOfTheLargest();
         masksOfAll();
         lastColourTold();
         agreeing();
@@ -599,6 +600,7 @@ public final class SightBoundsTest extends Checks {
         dueSuspects(z, "0", 0, 3, 4);
         taken(z, "supposed(0, 1)", y -> y.supposed(0, 1), 0);
         dueSuspects(shifted(10, 0), "below 0");
+        dueSuspects(scanned(WIDE + ";light 0 10;light 2 4;noise 0 plus 1"), "no wholes, 10 1/2, -1/2, 4 1/2");
     }
 
     /** Two that are open look like one with the light of both. */
@@ -808,6 +810,21 @@ public final class SightBoundsTest extends Checks {
         }
     }
 
+    private static void masksAlikeOfTheLargest() {
+        WeighingPlates x = of("bench squares 31 dark 0 top 9;light 30 5" + ";mask 0 30;mask 30".repeat(6));
+        promise = 38;
+        taken(x, "rank", y -> y.rank(), 2);
+        promise = 39;
+        taken(x, "told", y -> y.told(), 0x40000001);
+        promise = 40;
+        taken(x, "solved(30)", y -> y.solved(30, false), 5);
+        taken(x, "solved(0)", y -> y.solved(0, false), 0);
+        promise = 44;
+        taken(x, "agree", y -> y.agree(), 1);
+        promise = 45;
+        taken(x, "tour", y -> y.tour(), 2);
+    }
+
     /** More masks than colours: the rank is no more than they are. */
     private static void masksOfAll() {
         WeighingPlates x = of(SMALL + ";mask 0;mask 1;mask 2;mask 0 1;mask 0 2;mask 1 2;mask 0 1 2"
@@ -918,15 +935,23 @@ public final class SightBoundsTest extends Checks {
             ";mask 0;mask 1;mask 0", ";mask 0;mask 1;mask 2"};
         int[] moves = {3, 3, 3, 3, 3, 5};
         int[][] rows = {{0, 1}, {1, 0, 2}, {0, 1, 2}, {0, 1, 2}, {0, 2, 1}, {0, 1, 2}};
-        for (int i = 0; i < masks.length; i++) {
-            WeighingPlates x = of(BARE + masks[i]);
-            promise = 46;
-            for (int at = 0; at < rows[i].length; at++) {
-                due("tourAt(" + at + ") of " + masks[i], x.tourAt(at), rows[i][at]);
-            }
-            promise = 45;
-            due("tour of " + masks[i], x.tour(), moves[i]);
+        WeighingPlates used = new WeighingPlates();
+        for (int i = 0; i < 2 * masks.length; i++) {
+            dueTour(new WeighingPlates(), masks[i % masks.length], moves[i % masks.length], rows[i % masks.length]);
+            put(used, BARE + ";mask 0 1 2;mask 1 2;mask 0 2;mask 0 1;mask 2" + ";mask 0 1".repeat(i % 8));
+            used.tour();
+            dueTour(used, masks[i % masks.length], moves[i % masks.length], rows[i % masks.length]);
         }
+    }
+
+    private static void dueTour(WeighingPlates x, String masks, int moves, int[] row) {
+        put(x, BARE + masks);
+        promise = 46;
+        for (int at = 0; at < row.length; at++) {
+            due("tourAt(" + at + ") of " + masks, x.tourAt(at), row[at]);
+        }
+        promise = 45;
+        due("tour of " + masks, x.tour(), moves);
     }
 
     // ---- acts
