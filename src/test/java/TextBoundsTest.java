@@ -18,6 +18,7 @@ public final class TextBoundsTest extends Checks {
         everyByteBehindWhole();
         everyByteAsTop();
         lengthsOfWords();
+        everyLetterOfWords();
         lengthsOfWholes();
         everyEnd();
         breaks();
@@ -333,6 +334,30 @@ public final class TextBoundsTest extends Checks {
         bad(1, BARE + ";stuck 0 ^ope");
         bad(1, BARE + ";noise 0 ^plu 1");
         bad(1, BARE + ";^masks 0");
+    }
+
+    /** Another letter in any place of a word makes it none that a bench goes on with. */
+    private static void everyLetterOfWords() {
+        promise = 4;
+        String text = BARE + ";light 0 7;stuck 1 open;stuck 0 shut;noise 2 less 3;noise 1 plus 3;lost 0;mask 0 2";
+        everyLetterOf(text);
+        everyLetterOf("bench squares 3 dark 0 top 9");
+    }
+
+    private static void everyLetterOf(String text) {
+        good(text, 3);
+        int start = 0;
+        for (int at = 0; at < text.length(); at++) {
+            if (text.charAt(at) < 'a') {
+                start = at + 1;
+                continue;
+            }
+            for (char other : new char[] {'a', 'q', 'z'}) {
+                if (other != text.charAt(at)) {
+                    bad(text.substring(0, at) + other + text.substring(at + 1), 1, start);
+                }
+            }
+        }
     }
 
     /** "WHOLES of 1 to 6 digits that do" */
